@@ -1337,7 +1337,7 @@ public final class HutFlock {
         int seek(Flock flock, int n) {
             begin(flock, n);
             int most = leastStrength(flock);
-            boolean more = hasNext();
+            boolean more = goOn();
             // There are 126 rising rows of four among six.
             for (int row = 0; row < 1000 && more; row++) {
                 int least = leastStrength(flock);
@@ -1345,7 +1345,7 @@ public final class HutFlock {
                     most = least;
                     takeAsBest();
                 }
-                more = hasNext();
+                more = goOn();
             }
             return most;
         }
@@ -1371,8 +1371,8 @@ public final class HutFlock {
             }
         }
 
-        /** Goes on to the next rising row, if there is one. */
-        private boolean hasNext() {
+        /** To the next rising row; whether there is one. */
+        private boolean goOn() {
             for (int leg = legs - 1; leg >= 0; leg--) {
                 if (fronts[leg] < size - 1) {
                     int front = fronts[leg] + 1;
@@ -1420,7 +1420,7 @@ public final class HutFlock {
                     bestFar = far;
                     takeAsBest();
                 }
-                more = hasNext();
+                more = goOn();
             }
         }
 
@@ -1468,8 +1468,8 @@ public final class HutFlock {
             return sum;
         }
 
-        /** Goes on to the next way by the bricks' order, if there is one. */
-        private boolean hasNext() {
+        /** To the next way, by rising bricks; whether there is one. */
+        private boolean goOn() {
             int turn = size - 2;
             while (turn >= 0 && given[turn] > given[turn + 1]) {
                 turn--;

@@ -86,6 +86,9 @@ public final class PromisesTest {
         due.is("2 row(0, 3)", x.row(0, 3), 3);
         due.is("2 row(0, 40) anew", x.row(0, 40), 40);
         due.is("2 at(0, 39) is 0", Due.at(x, 0, 39), 0);
+        x.lay(0, 0, 8);
+        x.row(0, 1);
+        due.is("2 at(0, 0) is 0", Due.at(x, 0, 0), 0);
         due.is("5 tear(5)", x.tear(5), 1);
         due.is("5 tear(5) again", x.tear(5), -3);
         due.is("5 tear(6)", x.tear(6), -1);
@@ -186,6 +189,7 @@ public final class PromisesTest {
         due.is("9 put(4, 0, 1)", x.put(4, 0, 1), -1);
         due.is("8 text(3, 60) anew", x.text(3, 60), 60);
         due.is("8 blanks anew", x.put(3, 59, 5), 1032);
+        due.is("8 blanks anew at 0", x.put(3, 0, 5), 1032);
         due.is("9 asked() stays", x.asked(), 0);
     }
 
@@ -260,11 +264,13 @@ public final class PromisesTest {
         due.is("11 count(3)", x.count(3), 40);
         x.winter();
         x.feed(0);
+        x.keep(0);
         x.keep(1);
+        x.keep(2);
         Due.write(x, 1, "f1234");
         due.is("11 front(1)", x.front(1), -4);
         due.is("11 refused: DEEDS", x.count(2), 2);
-        due.is("11 refused: kept", x.count(10), 1);
+        due.is("11 refused: kept", x.count(10), 3);
         due.is("11 refused: HUTS", x.count(0), 2);
         Due.write(x, 1, "f987607k345");
         due.is("11 front(1) anew", x.front(1), 1);
@@ -401,6 +407,9 @@ public final class PromisesTest {
         x = Due.front("f000000 c950");
         x.winter();
         due.is("15 behind 9 is 0", Due.hut(x, 0, 4), 0);
+        x = Due.front("f000000 c850");
+        x.winter();
+        due.is("15 behind 8 is 9", Due.hut(x, 0, 4), 9);
         x = Due.front("f000000 c480 c390 h560");
         x.winter();
         due.is("15 stronger cuckoo", Due.hut(x, 1, 4), 4);
@@ -514,6 +523,15 @@ public final class PromisesTest {
         due.is("21 the lost one is back", x.count(4), 7);
         due.is("21 still kept", x.on(2), 3);
         x.undo(0);
+        x.storm(1);
+        x.winter();
+        x.keep(0);
+        x.undo(0);
+        x.winter();
+        x.winter();
+        due.is("21 on(0)", x.on(0), 2);
+        due.is("21 the first DEED, too", x.count(4), 5);
+        x.undo(0);
         due.is("20 keep(2) anew", x.keep(2), 0);
         x.winter();
         due.is("21 on(2) anew", x.on(2), 0);
@@ -582,6 +600,9 @@ public final class PromisesTest {
         x = Due.front("f400000 k150 c270 h390 l499 h590");
         due.is("24 order(5)", x.order(5), 5);
         due.same("24 STRENGTH as it is then, numbers", Due.row(x, 5), "2 3 4 0 1");
+        x = Due.front("f000000 g090 g180 g270 g360 g450 p540");
+        due.is("24 all six", x.order(5), 6);
+        due.same("24 as they are", Due.row(x, 5), "0 1 2 3 4 5");
         x = Due.front("f500000 l190 h290 h340");
         due.is("24 who stays, who is lost", x.order(1), 1);
         due.same("24 one", Due.row(x, 1), "1");
@@ -652,6 +673,12 @@ public final class PromisesTest {
         due.is("27 as near", x.pairs(0), 1);
         due.is("27 nearest to HOMES", x.asked(), 0);
         due.same("27 as they are", Due.row(x, 0), "4 5 3");
+        // Pairs at 0 1, 2 3, 4 5 in some order: whole pairs change with their homes, each the right way round.
+        x = Due.front("f000000 h590 h490 h190 h090 h390 h290");
+        x.sell(0, 5);
+        due.is("27 three PAIRS", x.pairs(0), 3);
+        due.is("27 far from HOMES", x.asked(), 2);
+        due.same("27 BRICKS of three PAIRS", Due.row(x, 0), "2 3 1 0 4 5");
         x = Due.front("f000000 h290 h790");
         x.sell(0, 1);
         due.is("27 by HOMES, not BRICKS", x.pairs(0), 5);
@@ -901,6 +928,8 @@ public final class PromisesTest {
     // Promise 38
     private static void counts() {
         HutFlock x = Due.front("f520011 h150 g261 k392 l403 p984");
+        due.is("38 STRENGTH of all", x.count(5), 5 + 6 + 9 + 0 + 8);
+        due.is("38 GUARD 0", Due.front("f000000 g150 h260").count(7), 1);
         x.row(3, 2);
         x.text(2, 5);
         x.text(3, 5);
