@@ -5,14 +5,18 @@ import java.util.Comparator;
 import java.util.List;
 import java.util.Random;
 
-/** Runs of calls made up by a fixed seed, answered by HutFlock as by Model; state is looked at after each call. */
+/**
+ * Runs of calls made up by a fixed seed, answered by HutFlock as by Model; state is looked at every now and then, as
+ * looking is a call, too, and nothing is promised beyond 512 of them.
+ */
 public final class ModelTest {
-    private static final int RUNS = 600, CALLS = 512;
+    private static final int RUNS = 2500, CALLS = 512;
     private static final Due due = new Due();
     private static final Random random = new Random(20261118L);
     private static HutFlock flock;
     private static Model model;
     private static int run;
+    private static int made;
 
     public static void main(String[] args) throws ReflectiveOperationException {
         List<Method> calls = new ArrayList<>();
@@ -26,19 +30,24 @@ public final class ModelTest {
         for (run = 0; run < RUNS; run++) {
             flock = new HutFlock();
             model = new Model();
-            int made = 0;
-            while (made < CALLS) {
-                boolean writes = random.nextInt(40) == 0 || made == 0 && run % 10 != 0;
-                made += writes ? writeFront(calls) : callAny(calls);
+            made = 0;
+            // Each time round more than one call may be made, seventy at most.
+            while (made < CALLS - 70) {
+                if (random.nextInt(70) == 0 || made == 0 && run % 10 != 0) {
+                    writeFront(calls);
+                } else {
+                    callAny(calls);
+                }
             }
+            look("at the end");
         }
         due.end("ModelTest");
     }
 
-    private static int callAny(List<Method> calls) throws ReflectiveOperationException {
+    private static void callAny(List<Method> calls) throws ReflectiveOperationException {
         Method m = calls.get(random.nextInt(calls.size()));
         if (m.getName().equals("front") && random.nextInt(5) != 0) {
-            return 0;
+            return;
         }
         int[] a = new int[m.getParameterCount()];
         for (int i = 0; i < a.length; i++) {
@@ -51,7 +60,9 @@ public final class ModelTest {
             laySigns(calls, a);
         }
         call(m, a);
-        return 1;
+        if (random.nextInt(4) == 0) {
+            look("behind " + m.getName());
+        }
     }
 
     private static int number() {
@@ -81,6 +92,7 @@ public final class ModelTest {
             int wind = random.nextInt(10);
             call(named(calls, "lay"), a[1], s, wind);
             int tired = flock.tires(0, wind);
+            made++;
             call(named(calls, "lay"), a[1], s + 1, tired >= 10 && random.nextBoolean() ? 0 : tired);
         }
     }
@@ -89,7 +101,7 @@ public final class ModelTest {
         return calls.stream().filter(m -> m.getName().equals(name)).findFirst().orElseThrow();
     }
 
-    private static int writeFront(List<Method> calls) throws ReflectiveOperationException {
+    private static void writeFront(List<Method> calls) throws ReflectiveOperationException {
         String signs = signs();
         int t = random.nextInt(4);
         call(named(calls, "text"), t, signs.length());
@@ -98,7 +110,6 @@ public final class ModelTest {
         }
         call(named(calls, "fault"), t);
         call(named(calls, "front"), t);
-        return signs.length() + 3;
     }
 
     private static String signs() {
@@ -137,11 +148,17 @@ public final class ModelTest {
             said.append(i == 0 ? "(" : ", ").append(a[i]);
         }
         long got = ((Number) m.invoke(flock, args)).longValue();
+        made++;
         due.is(said.toString(), got, model.call(m.getName(), a));
-        due.is(said + " asked()", flock.asked(), model.call("asked"));
-        due.is(said + " upper()", flock.upper(), model.call("upper"));
-        due.is(said + " lower()", flock.lower(), model.call("lower"));
-        due.is(said + " finding()", flock.finding(), model.call("finding"));
-        due.is(said + " digest()", flock.digest(), model.call("digest"));
+    }
+
+    private static void look(String when) {
+        String said = "run " + run + ", " + when + ": ";
+        due.is(said + "asked()", flock.asked(), model.call("asked"));
+        due.is(said + "upper()", flock.upper(), model.call("upper"));
+        due.is(said + "lower()", flock.lower(), model.call("lower"));
+        due.is(said + "finding()", flock.finding(), model.call("finding"));
+        due.is(said + "digest()", flock.digest(), model.call("digest"));
+        made += 5;
     }
 }
