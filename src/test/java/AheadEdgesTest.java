@@ -245,6 +245,11 @@ public final class AheadEdgesTest {
         pairs(Due.front("f000000 h090 h990"), 9, 0, "0 9");
         pairs(Due.front("f000000 h990 h090"), 9, 0, "9 0");
         pairs(Due.front("f000000 h490 h590"), 1, 0, "4 5");
+        // A PAIR that was asked for is none any more when the other one is lost.
+        x = Due.front("f000000 h490 h190");
+        pairs(x, 3, 0, "4 1");
+        x.storm(1);
+        pairs(x, 0, 0, "4");
         // HUTS 1 and 2 are no PAIR, nor are 1 and 2 when 0 and 3 are lost.
         x = Due.front("f000000 h090 h890 h190 h990");
         pairs(x, 2, 14, "0 1 8 9");
