@@ -42,7 +42,7 @@ final class Due {
         return x.at(r, i) == 1 ? x.asked() : Integer.MIN_VALUE;
     }
 
-    /** A row as text, "missing" if it is. */
+    /** The places of a row, with blanks between; of a missing one there are none. */
     static String row(HutFlock x, int r) {
         StringBuilder all = new StringBuilder();
         for (int i = 0; x.at(r, i) == 1; i++) {

@@ -1,16 +1,22 @@
 import java.io.IOException;
+import java.io.PrintWriter;
+import java.io.StringWriter;
 import java.lang.reflect.Constructor;
 import java.lang.reflect.Field;
 import java.lang.reflect.Method;
 import java.lang.reflect.Modifier;
 import java.nio.file.Files;
 import java.nio.file.Path;
+import java.util.ArrayList;
 import java.util.Arrays;
 import java.util.List;
+import java.util.Map;
 import java.util.Set;
+import java.util.TreeMap;
 import java.util.TreeSet;
 import java.util.regex.Matcher;
 import java.util.regex.Pattern;
+import java.util.spi.ToolProvider;
 
 /** The face of the document, and those rules of ../shared/LANGUAGE.md that can be seen from outside. */
 public final class LanguageTest {
@@ -29,6 +35,7 @@ public final class LanguageTest {
         face();
         nested();
         words(withoutComments(Files.readString(Path.of("src/main/java/HutFlock.java"))));
+        callsAreShallow();
         due.end("LanguageTest");
     }
 
@@ -135,5 +142,64 @@ public final class LanguageTest {
                 }
             }
         }
+    }
+
+    /** Rule 11: no call goes more than eight deep, the library's own counted as one; none comes round to itself. */
+    private static void callsAreShallow() {
+        Map<String, List<String>> calls = callsOf();
+        int deepest = 0;
+        for (String method : calls.keySet()) {
+            deepest = Math.max(deepest, depth(method, calls, 0));
+        }
+        due.is("methods that javap tells of", calls.size() > 100 ? 1 : 0, 1);
+        due.is("more than eight deep", deepest > 8 ? deepest : 0, 0);
+    }
+
+    private static int depth(String method, Map<String, List<String>> calls, int above) {
+        int deepest = 1;
+        // A call that comes round to itself is told as too deep, and not followed without end.
+        if (above < 20) {
+            for (String called : calls.getOrDefault(method, List.of())) {
+                deepest = Math.max(deepest, 1 + depth(called, calls, above + 1));
+            }
+        }
+        return deepest;
+    }
+
+    /** What each method of the file calls, by the compiled classes. */
+    private static Map<String, List<String>> callsOf() {
+        Map<String, List<String>> calls = new TreeMap<>();
+        for (String type : typesOfTheFile()) {
+            String method = "";
+            for (String line : disassembled(type).split("\n")) {
+                Matcher begins = Pattern.compile("^  [\\w$. \\[\\]]*?([\\w$]+)\\(.*\\);$").matcher(line);
+                Matcher called = Pattern.compile("// Method (?:([\\w/$]+)\\.)?(\"<init>\"|\\w+):").matcher(line);
+                if (begins.matches()) {
+                    method = type + "." + (begins.group(1).equals(type) ? "<init>" : begins.group(1));
+                    calls.put(method, new ArrayList<>());
+                } else if (called.find()) {
+                    String in = called.group(1) == null ? type : called.group(1);
+                    calls.get(method).add(in + "." + called.group(2).replace("\"", ""));
+                }
+            }
+        }
+        return calls;
+    }
+
+    private static List<String> typesOfTheFile() {
+        List<String> types = new ArrayList<>(List.of("HutFlock"));
+        for (Class<?> c : HutFlock.class.getDeclaredClasses()) {
+            types.add(c.getName());
+        }
+        return types;
+    }
+
+    private static String disassembled(String type) {
+        StringWriter text = new StringWriter();
+        PrintWriter out = new PrintWriter(text);
+        int answer = ToolProvider.findFirst("javap").orElseThrow()
+                .run(out, out, "-c", "-p", "-cp", System.getProperty("java.class.path"), type);
+        due.is("javap " + type, answer, 0);
+        return text.toString();
     }
 }
