@@ -146,6 +146,10 @@ public final class LanguageTest {
 
     /** Rule 11: no call goes more than eight deep, the library's own counted as one; none comes round to itself. */
     private static void callsAreShallow() {
+        if (ToolProvider.findFirst("javap").isEmpty()) {
+            System.out.println("LanguageTest: there is no javap here, so how deep calls go was not looked at");
+            return;
+        }
         Map<String, List<String>> calls = callsOf();
         int deepest = 0;
         for (String method : calls.keySet()) {

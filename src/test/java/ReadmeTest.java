@@ -11,8 +11,6 @@ import java.util.List;
 import java.util.regex.Matcher;
 import java.util.regex.Pattern;
 import java.util.stream.Stream;
-import javax.tools.JavaCompiler;
-import javax.tools.ToolProvider;
 
 /** The Java in README.md is one program: it is compiled, and each call answers what stands behind it. */
 public final class ReadmeTest {
@@ -21,7 +19,7 @@ public final class ReadmeTest {
     private static final List<String> calls = new ArrayList<>();
     private static final List<Long> wanted = new ArrayList<>();
 
-    public static void main(String[] args) throws IOException, ReflectiveOperationException {
+    public static void main(String[] args) throws IOException, InterruptedException, ReflectiveOperationException {
         String readme = Files.readString(Path.of("README.md"));
         namesEachCall(readme);
         answersAsSaid(programOf(readme));
@@ -64,7 +62,8 @@ public final class ReadmeTest {
                 ? HutFlock.class.getField(said).getInt(null) : Long.parseLong(said);
     }
 
-    private static void answersAsSaid(String program) throws IOException, ReflectiveOperationException {
+    private static void answersAsSaid(String program)
+            throws IOException, InterruptedException, ReflectiveOperationException {
         Path out = Files.createTempDirectory("readme");
         try {
             List<Long> got = new ArrayList<>();
@@ -81,11 +80,10 @@ public final class ReadmeTest {
         }
     }
 
-    private static boolean compiles(Path out, String program) throws IOException {
+    private static boolean compiles(Path out, String program) throws IOException, InterruptedException {
         Path file = Files.writeString(out.resolve("ReadmeProgram.java"), program);
-        JavaCompiler compiler = ToolProvider.getSystemJavaCompiler();
-        int answer = compiler == null ? -1 : compiler.run(null, null, null, "-d", out.toString(),
-                "-cp", System.getProperty("java.class.path"), file.toString());
+        int answer = new ProcessBuilder("javac", "-d", out.toString(), "-cp", System.getProperty("java.class.path"),
+                file.toString()).inheritIO().start().waitFor();
         due.is("compiling the Java in README", answer, 0);
         return answer == 0;
     }
