@@ -587,6 +587,10 @@ public final class AheadEdgesTest {
         x.storm(0);
         mid(x, 0, 0, 1);
         due.is("33 nothing is done", x.count(1), 0);
+        // Now HUT 0 is the stronger one, by 9; behind it the GUARD is, by 6, and HUT 0 has 5.
+        HutFlock turned = Due.front("f400000 h090 g180");
+        mid(turned, 0, 6, 1);
+        mid(turned, 6, 17, 4);
     }
 
     // Promise 34: "the first from the seed (1 .. 2147483646)"
